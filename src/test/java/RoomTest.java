@@ -3,8 +3,8 @@ import java.lang.management.ManagementFactory;
 /** All calls of a run live in one room: the constructor is small, and no call after it makes an object. */
 public final class RoomTest {
     private static final int CALLS = 512;
-    // 512 objects of this size take less than half of the room's 7.3 million fields and elements.
-    private static final long MOST_BYTES_OF_AN_OBJECT = 512 * 1024 / 16;
+    // At four bytes an element, 512 such objects take less than half of the room's 7.3 million elements.
+    private static final long MOST_BYTES_OF_AN_OBJECT = 24 * 1024;
     private static int wrong = 0;
 
     private static long bytes() {
