@@ -178,7 +178,7 @@ public final class KeySetter {
         if (!letters.has(letter)) {
             return BAD;
         }
-        return setting.present ? setting.shareOf(letter) : NO;
+        return setting.present ? setting.shareOf(letter, NONE) : NO;
     }
 
     public int better() {
@@ -576,30 +576,27 @@ public final class KeySetter {
             return sum;
         }
 
-        long shareOf(int letter) {
+        /** The LETTER's SHARE without what it has together with the one that is left out; 0 if there is no such LETTER. */
+        long shareOf(int letter, int leftOut) {
+            if (!letters.has(letter)) {
+                return 0;
+            }
             long sum = 0;
             for (int other = 0; other < letters.number; other++) {
-                if (other != letter) {
+                if (other != letter && other != leftOut) {
                     sum += pairCost(letter, other) + pairCost(other, letter);
                 }
             }
             return sum;
         }
 
-        /** What of the COST has the LETTER or the other one, if there is another one. */
-        private long shareOfBoth(int letter, int other) {
-            if (other == NONE || other == letter) {
-                return shareOf(letter);
-            }
-            return shareOf(letter) + shareOf(other) - pairCost(letter, other) - pairCost(other, letter);
-        }
-
         long changeByMove(int letter, int key) {
             int other = letterOn(key);
             int home = keyOf[letter];
-            long before = shareOfBoth(letter, other);
+            // What both have together counts once, so it is left out of the other one's SHARE.
+            long before = shareOf(letter, NONE) + shareOf(other, letter);
             move(letter, key);
-            long after = shareOfBoth(letter, other);
+            long after = shareOf(letter, NONE) + shareOf(other, letter);
             move(letter, home);
             return after - before;
         }
