@@ -214,6 +214,10 @@ public final class BoundaryTest {
         for (int i = 0; i < 12; i++) for (int k = 0; k < 12; k++) due("then " + i + ", " + k, x.go(i, k, 1000), 80 * i + k);
         for (int i = 0; i < 12; i++) due("the most", x.cost(11 - i, i), 1000);
 
+        x = kinds(2, 5, 3, 7);
+        int[] extrasAlone = {5, 14};
+        for (int i = 0; i < 2; i++) for (int k = 0; k < 2; k++) due("0 at first, so EXTRA alone", x.cost(i, k), extrasAlone[k]);
+
         says("THE COST of going from i to k is by BODIES of k:");
         x = kinds(0, 5, 1, 5, 2, 5, 3, 5);
         int[][] bodies = {{1, NONE, NONE, NONE}, {2, 1, NONE, NONE}, {3, 1, NONE, NONE}, {4, 3, 1, NONE}};
@@ -277,6 +281,9 @@ public final class BoundaryTest {
         x = plain(1, "aaaa", new int[][] {{1000}});
         x.first();
         due("one LETTER has no pairs", x.all(), 0);
+        x = even(2, "abcacb", 3, 7);
+        x.first();
+        due("c is no LETTER", x.all(), 7);
         x = plain(2, "ba", new int[][] {{0, 1}, {10, 0}});
         x.first();
         due("from b's KEY to a's", x.all(), 10);
@@ -329,6 +336,13 @@ public final class BoundaryTest {
         x = started(2, "ab", third);
         due("b goes", x.better(), 1);
         dueAt("b went", x, 0, 2);
+        x = started(2, "ab", new int[][] {{0, 9, 9}, {1, 0, 9}, {9, 9, 0}});
+        x.put(0, 2);
+        x.put(1, 1);
+        x.put(0, 1);
+        dueAt("put", x, 1, 2);
+        due("b goes to KEY 0", x.better(), 1);
+        dueAt("b went", x, 1, 0);
         x = plain(2, "ab", third);
         x.fix(1, 1);
         x.first();
@@ -356,6 +370,9 @@ public final class BoundaryTest {
         x = started(2, "ab", new int[][] {{0, 10, 4}, {4, 0, 4}, {4, 4, 0}});
         due("all give 4", x.better(), 1);
         dueAt("an exchange is ahead of goings", x, 1, 0);
+        x = started(3, "abc", new int[][] {{0, 5, 5, 9}, {9, 0, 5, 9}, {9, 0, 0, 9}, {9, 0, 9, 0}});
+        due("b, c and a to 3 give 5", x.better(), 1);
+        dueAt("later LETTERS' exchanges, too", x, 0, 2, 1);
         x = started(2, "ab", new int[][] {{0, 10, 4}, {10, 0, 4}, {4, 4, 0}});
         due("both goings give 4", x.better(), 1);
         dueAt("a went", x, 2, 1);
@@ -551,6 +568,15 @@ public final class BoundaryTest {
         due("GO to itself", x.turns(), 1);
         x.go(0, 0, 1);
         due("GO of both to themselves", x.turns(), 2);
+        x = kinds(0, 0, 0, 0, 0, 0);
+        x.go(0, 1, 1);
+        due("from 0 to one of the others", x.turns(), 1);
+        x.go(0, 2, 1);
+        due("from 0 to both", x.turns(), 2);
+        x.go(2, 0, 1);
+        due("from one of them back", x.turns(), 1);
+        x.go(1, 0, 1);
+        due("from both back", x.turns(), 2);
         // HOME cuts both to 0, but GO is another
         x = kinds(1, 0, 1, 0);
         x.go(0, 1, 1);
@@ -623,6 +649,7 @@ public final class BoundaryTest {
         due("cost(0, 0)", x.cost(0, 0), BAD);
         for (int l = 0; l < 6; l++) due("fix(" + l + ", NONE)", x.fix(l, NONE), NONE);
         due("the first KEY", x.key(0, 0), 0);
+        due("nothing is FIXED there", x.fix(5, 0), NONE);
         KeySetter other = new KeySetter();
         due("another object has none of that", other.count(1), 0);
     }
@@ -1543,7 +1570,7 @@ public final class BoundaryTest {
 
     // ---- what goes and what stays
 
-    private static final int SETTING = 1, FIXED = 2, FOUND = 4, TRIES = 8, BODIES = 16;
+    private static final int SETTING = 1, FIXED = 2, FOUND = 4, TRIES = 8, BODIES = 16, ITS_KEYS = 32;
 
     /** A SETTING 2, 1, 3 with c FIXED on 3, another one FOUND, TRIES, and three BODIES. */
     private static KeySetter busy() {
@@ -1569,7 +1596,7 @@ public final class BoundaryTest {
         for (int i = 0; i < 4 && (gone & BODIES) == 0; i++) due(what + ": body()", x.body(i), before.body(i));
         due(what + ": least()", x.least(), (gone & FOUND) == 0 ? before.least() : -1);
         due(what + ": a SETTING", x.count(6), (gone & SETTING) == 0 ? 1 : 0);
-        for (int l = 0; l < 3 && (gone & SETTING) == 0; l++) due(what + ": at()", x.at(l), before.at(l));
+        for (int l = 0; l < 3 && (gone & (SETTING | ITS_KEYS)) == 0; l++) due(what + ": at()", x.at(l), before.at(l));
         due(what + ": FIXED", x.count(5), (gone & FIXED) == 0 ? 1 : 0);
         due(what + ": c is FIXED", x.fix(2, NONE), (gone & FIXED) == 0 ? 3 : NONE);
     }
@@ -1590,6 +1617,10 @@ public final class BoundaryTest {
         dueGone("cost", x -> x.cost(0, 0), BODIES);
         dueGone("search", KeySetter::search, 0);
         dueGone("putting it where it is", x -> x.put(0, 2), 0);
+        dueGone("put", x -> x.put(0, 0), ITS_KEYS);
+        dueGone("first", KeySetter::first, ITS_KEYS);
+        dueGone("better", KeySetter::better, ITS_KEYS);
+        dueGone("take", KeySetter::take, ITS_KEYS);
         dueGone("all calls that only look", BoundaryTest::lookAtAll, 0);
     }
 

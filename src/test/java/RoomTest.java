@@ -29,13 +29,18 @@ public final class RoomTest {
     }
 
     private static void checkCallsMakeNothing() {
-        KeySetter x = new KeySetter();
-        x.letters(10);
-        for (int k = 0; k < 12; k++) x.key(k % 4, k);
-        long h = everyCall(x, 0);
-        long before = bytes();
-        for (int i = 1; i <= 100; i++) h += everyCall(x, i);
-        long made = bytes() - before;
+        long made = 0;
+        long h = 0;
+        // Some 27 calls a round, so that an object has no more than its 512.
+        for (int object = 0; object < 6; object++) {
+            KeySetter x = new KeySetter();
+            x.letters(10);
+            for (int k = 0; k < 12; k++) x.key(k % 4, k);
+            h += everyCall(x, 0);
+            long before = bytes();
+            for (int i = 1; i <= 16; i++) h += everyCall(x, 16 * object + i);
+            made += bytes() - before;
+        }
         check(made < 10000, "calls made " + made + " bytes of objects, " + h);
     }
 
