@@ -3,9 +3,9 @@ import java.util.List;
 import java.util.function.Consumer;
 
 /**
- * "Refused, changing nothing, the first of: BAD, NO, FULL, SPENT": in a number of states every call that is due to be
- * refused, and every call that only looks, is made on one of two like objects. It answers as told, and then all calls
- * answer on this object as on the other one.
+ * "Refused, changing nothing, the first of: BAD, NO, FULL, SPENT": in a number of states, calls of every method with
+ * numbers at and beyond the bounds are made on one of two like objects, if they are due to be refused or only look. What
+ * is refused answers as told, and after each batch of them all calls answer on this object as on the other one.
  */
 public final class RefusedTest {
     private static final long BAD = -2, NO = -3, FULL = -4, SPENT = -5;
