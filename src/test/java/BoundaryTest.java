@@ -17,6 +17,8 @@ public final class BoundaryTest {
     private static final long CHANGE_BAD = 1000000000L, CHANGE_NO = 1000000001L;
     private static final int LEAST = Integer.MIN_VALUE, GREATEST = Integer.MAX_VALUE;
     private static final String TERMS = "Terms";
+    // FaceTest has the one; the other says what is free.
+    private static final List<String> HEADINGS_WITHOUT_CALLS = List.of("The public face", "Not promised");
 
     private static final Map<String, List<String>> quotes = new LinkedHashMap<>();
     private static String section = "";
@@ -107,6 +109,32 @@ public final class BoundaryTest {
     }
 
     // ---- the object and the terms
+
+    private static void whatItIs() {
+        of("What it is");
+        says("A maker of typewriters: how often letters follow one another in pages, keys of kinds with costs of going from one to another, settings of letters on keys bettered two by two, the least cost found by placing letter after letter, a bound below all settings, turns of the keyboard that change nothing.");
+        KeySetter x = plain(3, TEXT, WAYS);
+        due("how often", x.often(0, 1), 2);
+        due("a cost of going", x.cost(0, 2), 2);
+        x.first();
+        x.put(1, 2);
+        due("a setting: twice 2, 6, 3", x.all(), 13);
+        due("bettered", x.better(), 1);
+        due("by two: twice 1, 4, 5", x.all(), 11);
+        due("search", x.search(), 1);
+        due("the least cost", x.least(), 11);
+        due("a bound below: twice 1 of a, 3 of b, 5 of c", x.bound(), 10);
+        due("turns", x.turns(), 1);
+
+        says("======== 1 LETTERS are the first n (1 ..");
+        for (int n = 1; n <= 10; n++) {
+            x = new KeySetter();
+            due("as many as " + n, x.letters(n), 6);
+            due("there are " + n, x.count(0), n);
+            for (int l = 0; l < 10; l++) due("LETTER " + l + " of " + n, x.often(l, l), l < n ? 0 : BAD);
+        }
+        for (int n : outside(1, 10)) due("not as many as " + n, new KeySetter().letters(n), BAD);
+    }
 
     private static void anObject() {
         of("What it is");
@@ -1652,9 +1680,18 @@ public final class BoundaryTest {
             .replaceAll("\\s+", " ");
     }
 
+    private static List<String> headingsOf(String document) {
+        List<String> headings = new ArrayList<>();
+        for (String line : document.split("\n")) if (line.startsWith("## ")) headings.add(line.substring(3).replaceAll(":.*", ""));
+        return headings;
+    }
+
     private static void layBeside(String document) {
         List<String> names = new ArrayList<>(quotes.keySet());
-        for (int promise = 1; promise <= 27; promise++) if (!names.contains("Promise " + promise)) fail("no test of promise " + promise);
+        for (String heading : headingsOf(document)) {
+            boolean tested = names.contains(heading) || HEADINGS_WITHOUT_CALLS.contains(heading);
+            if (!tested) fail("no test of what stands under " + heading);
+        }
         for (String name : names) {
             String rest = sectionOf(document, name.startsWith("Promise") ? name + ":" : name);
             if (rest == null) {
@@ -1666,12 +1703,12 @@ public final class BoundaryTest {
                 if (place < 0) fail("the document does not say this in " + name + ": " + quote);
                 else rest = rest.substring(0, place) + "|" + rest.substring(place + quote.length());
             }
-            boolean whole = !name.equals("What it is");
-            if (whole && !rest.replaceAll("[|\\s]", "").isEmpty()) fail("not quoted of " + name + ": " + rest);
+            if (!rest.replaceAll("[|\\s]", "").isEmpty()) fail("not quoted of " + name + ": " + rest);
         }
     }
 
     public static void main(String[] args) throws IOException {
+        whatItIs();
         anObject();
         termsOfPages();
         termsOfKeys();

@@ -11,7 +11,7 @@ import java.util.TreeSet;
 import java.util.regex.Matcher;
 import java.util.regex.Pattern;
 
-/** The public face of the document, and rules of LANGUAGE.md that a look at the class can check. */
+/** The public face of the class, as rule 1 of LANGUAGE.md asks for it, and beside what the document says of it. */
 public final class FaceTest {
     private static final String[] METHODS = {
         "int letters(int)", "int feed(int, long, int)", "int tear(int)", "int often(int, int)", "int key(int, int)",
@@ -20,10 +20,6 @@ public final class FaceTest {
         "int search()", "long least()", "int take()", "int tries()", "long bound()", "long price(int, int)",
         "int turns()", "int alike()", "int count(int)", "long digest()"};
     private static final String[] CONSTANTS = {"NONE", "BAD", "NO", "FULL", "SPENT"};
-    private static final String[] NOT_IN_THE_LANGUAGE = {
-        "\\bthrow\\b", "\\bthrows\\b", "\\btry\\b", "\\bcatch\\b", "\\bsynchronized\\b", "\\bassert\\b", "->", "::",
-        "\\bstatic\\s*\\{", "\\bpackage\\b", "\\bvar\\b", "Exact\\b", "\\bSystem\\.(?!arraycopy)", "\\bThread\\b",
-        "\\bRandom\\b", "\\bObject\\b", "\\bvolatile\\b", "\\bnative\\b", "\\bimport (?!java\\.util\\.Arrays;)"};
     private static int wrong = 0;
 
     private static void check(boolean holds, String otherwise) {
@@ -32,6 +28,8 @@ public final class FaceTest {
             System.out.println(otherwise);
         }
     }
+
+    // ---- the class
 
     private static String told(Method m) {
         StringBuilder s = new StringBuilder(m.getReturnType().toString()).append(' ').append(m.getName()).append('(');
@@ -50,6 +48,7 @@ public final class FaceTest {
             if (Modifier.isPrivate(m.getModifiers())) continue;
             open.add((Modifier.isPublic(m.getModifiers()) ? "" : "not public ") + told(m));
             names.add(m.getName());
+            check(!Modifier.isStatic(m.getModifiers()), m.getName() + " is static");
             check(m.getExceptionTypes().length == 0, m.getName() + " declares exceptions");
         }
         check(open.equals(new TreeSet<>(Arrays.asList(METHODS))), "the methods are " + open);
@@ -61,22 +60,20 @@ public final class FaceTest {
         for (Method m : c.getDeclaredMethods()) {
             boolean face = c == KeySetter.class && Modifier.isPublic(m.getModifiers());
             check(face || !names.contains(m.getName()), c.getName() + "." + m.getName() + " bears a public name");
-            check(m.getParameterCount() <= 7, c.getName() + "." + m.getName() + " takes too many parameters");
         }
     }
 
     private static void checkFields() throws IllegalAccessException {
         Set<String> open = new TreeSet<>();
         for (Field f : KeySetter.class.getDeclaredFields()) {
-            int is = f.getModifiers();
-            if (!Modifier.isPrivate(is)) open.add(f.getName());
-            check(!Modifier.isStatic(is) || Modifier.isFinal(is), f.getName() + " is static and not final");
+            if (!Modifier.isPrivate(f.getModifiers())) open.add(f.getName());
         }
         check(open.equals(new TreeSet<>(Arrays.asList(CONSTANTS))), "the open fields are " + open);
         for (int i = 0; i < CONSTANTS.length && wrong == 0; i++) {
             try {
                 Field f = KeySetter.class.getField(CONSTANTS[i]);
                 check(f.getType() == int.class && f.getInt(null) == -1 - i, CONSTANTS[i] + " is not " + (-1 - i));
+                check(Modifier.isStatic(f.getModifiers()) && Modifier.isFinal(f.getModifiers()), CONSTANTS[i] + " is none");
             } catch (NoSuchFieldException e) {
                 check(false, CONSTANTS[i] + " is not there");
             }
@@ -86,35 +83,47 @@ public final class FaceTest {
     private static void checkClasses() {
         int is = KeySetter.class.getModifiers();
         check(Modifier.isPublic(is) && Modifier.isFinal(is), "the class is not public and final");
+        check(KeySetter.class.getPackageName().isEmpty(), "the class has a package");
+        check(KeySetter.class.getSuperclass() == Object.class && KeySetter.class.getInterfaces().length == 0,
+            "the class has classes above it");
         Constructor<?>[] makers = KeySetter.class.getDeclaredConstructors();
-        check(makers.length == 1 && makers[0].getParameterCount() == 0 && Modifier.isPublic(makers[0].getModifiers()),
-            "the constructor is another");
-        Class<?>[] inside = KeySetter.class.getDeclaredClasses();
-        check(inside.length < 12, "too many classes");
-        for (Class<?> c : inside) {
+        check(makers.length == 1 && makers[0].getParameterCount() == 0 && Modifier.isPublic(makers[0].getModifiers())
+            && makers[0].getExceptionTypes().length == 0, "the constructor is another");
+        for (Class<?> c : KeySetter.class.getDeclaredClasses()) {
             check(Modifier.isStatic(c.getModifiers()), c + " is not static");
             check(!Modifier.isPublic(c.getModifiers()) && !Modifier.isProtected(c.getModifiers()), c + " is open");
-            int fields = 0;
-            for (Field f : c.getDeclaredFields()) if (!Modifier.isStatic(f.getModifiers())) fields++;
-            check(fields <= 20, c + " has too many fields");
         }
     }
 
-    private static void checkSource() throws IOException {
-        String source = Files.readString(Path.of("src/main/java/KeySetter.java"));
-        String code = source.replaceAll("(?s)/\\*.*?\\*/", " ").replaceAll("//[^\n]*", " ");
-        for (String word : NOT_IN_THE_LANGUAGE) {
-            Matcher m = Pattern.compile(word).matcher(code);
-            check(!m.find(), "the source has " + word);
+    // ---- the document
+
+    /** The lines of the document's face, but for the names of parameters, are those that are looked for above. */
+    private static void layBeside(String document) {
+        Matcher face = Pattern.compile("(?s)\n## The public face\n.*?```java\n(.*?)```").matcher(document);
+        if (!face.find()) {
+            check(false, "the document tells no face");
+            return;
         }
-        check(source.chars().allMatch(c -> c < 128), "the source is not plain text");
+        Set<String> methods = new TreeSet<>();
+        String rest = face.group(1);
+        Matcher m = Pattern.compile("public (\\w+ \\w+)\\(([^)]*)\\);").matcher(rest);
+        while (m.find()) methods.add(m.group(1) + "(" + m.group(2).replaceAll("(\\w+) \\w+", "$1") + ")");
+        check(methods.equals(new TreeSet<>(Arrays.asList(METHODS))), "the document's methods are " + methods);
+
+        StringBuilder constants = new StringBuilder("public static final int ");
+        for (int i = 0; i < CONSTANTS.length; i++) constants.append(i == 0 ? "" : ", ").append(CONSTANTS[i]).append(" = ").append(-1 - i);
+        rest = m.replaceAll("").replace(constants.append(";"), "").replace("public KeySetter();", "")
+            .replace("public final class KeySetter {", "").replace("}", "");
+        check(rest.isBlank(), "the document's face has more: " + rest);
     }
 
     public static void main(String[] args) throws IOException, IllegalAccessException {
         checkMethods();
         checkFields();
         checkClasses();
-        checkSource();
+        Path document = Path.of("../shared/DOC.md");
+        if (Files.exists(document)) layBeside(Files.readString(document));
+        else System.out.println("the document is not there, so the face is not laid beside it");
         System.out.println(wrong == 0 ? "the face is the document's" : wrong + " things are not as due");
         if (wrong != 0) System.exit(1);
     }
