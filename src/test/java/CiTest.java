@@ -105,25 +105,31 @@ public final class CiTest {
         return paths;
     }
 
+    private static Process start(Path root, Path room) throws IOException {
+        // Called from elsewhere, as it must find its project by itself; by sh, as not every system lets files of a
+        // temporary directory be run.
+        ProcessBuilder command = new ProcessBuilder("sh", root.resolve("main").resolve(SCRIPT).toString());
+        // So that what it leaves behind of its own is seen as well.
+        command.environment().put("TMPDIR", room.toString());
+        return command.directory(root.toFile()).redirectErrorStream(true).start();
+    }
+
+    /** Empty if .ci/run does in this project what is due. */
     private static String complaintOf(Project project) throws IOException, InterruptedException {
         Path root = Files.createTempDirectory("ci");
         make(project, root);
+        Path room = Files.createDirectories(root.resolve("room"));
         TreeSet<String> before = pathsUnder(root);
-        // Called from elsewhere, as it must find its project by itself; by sh, as nothing may be run as a program there.
-        ProcessBuilder command = new ProcessBuilder("sh", root.resolve("main").resolve(SCRIPT).toString());
-        Process process = command.directory(root.toFile()).redirectErrorStream(true).start();
+        Process process = start(root, room);
         String printed = new String(process.getInputStream().readAllBytes());
         int code = process.waitFor();
         TreeSet<String> after = pathsUnder(root);
         for (String path : after) Files.delete(Path.of(path));
 
-        StringBuilder complaint = new StringBuilder();
-        if (code != project.due) complaint.append("exit code ").append(code).append(", due is ").append(project.due).append("; ");
-        for (String words : project.prints) {
-            if (!printed.contains(words)) complaint.append("it did not print \"").append(words).append("\"; ");
-        }
-        if (!after.equals(before)) complaint.append("it left other files behind; ");
-        return complaint.length() == 0 ? "" : project.name + ": " + complaint + "it printed\n" + printed;
+        String complaint = code == project.due ? "" : "exit code " + code + ", due is " + project.due + "; ";
+        for (String words : project.prints) if (!printed.contains(words)) complaint += "it did not print \"" + words + "\"; ";
+        if (!after.equals(before)) complaint += "it left other files behind; ";
+        return complaint.isEmpty() ? "" : project.name + ": " + complaint + "it printed\n" + printed;
     }
 
     public static void main(String[] args) throws Exception {
